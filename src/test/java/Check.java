@@ -16,6 +16,13 @@ final class Check {
         }
     }
 
+    static void dueText(String what, String want, String got) {
+        if (!got.equals(want)) {
+            wrong++;
+            System.out.println(what + " is \"" + got + "\", due is \"" + want + "\"");
+        }
+    }
+
     static boolean failing() {
         return wrong > 0;
     }
