@@ -2,24 +2,32 @@
 final class Check {
     private static final int MOST_PRINTED = 40;
     private static int wrong = 0;
+    private static String heading = "";
 
     private Check() {
     }
 
+    /** The words of the document that the answers from here on belong to; printed with what is not as due. */
+    static void sentence(String words) {
+        heading = words + ": ";
+    }
+
     static void due(String call, long want, long got) {
-        if (got == want) {
-            return;
-        }
-        wrong++;
-        if (wrong <= MOST_PRINTED) {
-            System.out.println(call + " answered " + got + ", due is " + want);
+        if (got != want) {
+            tell(call + " answered " + got + ", due is " + want);
         }
     }
 
     static void dueText(String what, String want, String got) {
         if (!got.equals(want)) {
-            wrong++;
-            System.out.println(what + " is \"" + got + "\", due is \"" + want + "\"");
+            tell(what + " is \"" + got + "\", due is \"" + want + "\"");
+        }
+    }
+
+    private static void tell(String fault) {
+        wrong++;
+        if (wrong <= MOST_PRINTED) {
+            System.out.println(heading + fault);
         }
     }
 

@@ -40,58 +40,8 @@ public final class PromiseTest {
         Check.end();
     }
 
-    private static LineScript typed(String page) {
-        LineScript script = new LineScript();
-        type(script, page);
-        return script;
-    }
-
-    private static void type(LineScript script, String page) {
-        for (char letter : page.toCharArray()) {
-            script.letter(letter);
-        }
-    }
-
-    private static LineScript read(String text) {
-        LineScript script = typed(text);
-        script.text();
-        return script;
-    }
-
-    private static int packed(String line) {
-        int number = 0;
-        for (char letter : line.toCharArray()) {
-            number = 128 * number + letter;
-        }
-        return number;
-    }
-
-    /** The script as words: K0-1 KEPT, D0 DROPPED, A0 ADDED, C0-1 CHANGED, M0-1 MENDED. */
-    private static String steps(LineScript script) {
-        StringBuilder words = new StringBuilder();
-        for (int step = 0; step < script.count(2); step++) {
-            int old = script.step(step, 1);
-            int neu = script.step(step, 2);
-            words.append(step == 0 ? "" : " ").append("KDACM".charAt(script.step(step, 0)));
-            words.append(old == NONE ? "" : old).append(old == NONE || neu == NONE ? "" : "-");
-            words.append(neu == NONE ? "" : neu);
-        }
-        return words.toString();
-    }
-
-    private static String side(LineScript script, int side) {
-        StringBuilder lines = new StringBuilder();
-        for (int line = 0; line < script.count(side); line++) {
-            lines.append(line == 0 ? "" : ",");
-            for (int letter = 1; letter <= script.line(side, line, 0); letter++) {
-                lines.append((char) script.line(side, line, letter));
-            }
-        }
-        return lines.toString();
-    }
-
     private static void dueSteps(String text, String want) {
-        Check.dueText("the script of " + text, want, steps(read(text)));
+        Check.dueText("the script of " + text, want, Given.steps(Given.read(text)));
     }
 
     private static void newObject() {
@@ -139,17 +89,17 @@ public final class PromiseTest {
     }
 
     private static void blank() {
-        LineScript script = typed("ab;c");
+        LineScript script = Given.typed("ab;c");
         Check.due("blank()", 4, script.blank());
         Check.due("blank() again", 0, script.blank());
         Check.due("letter(97) behind blank()", 1, script.letter(97));
-        type(script, ";");
+        Given.type(script, ";");
         Check.due("text() behind blank()", 1, script.text());
         Check.due("line(0, 0, 0) behind blank()", 1, script.line(0, 0, 0));
     }
 
     private static void dueFault(String page, int want) {
-        Check.due("fault() of " + page, want, typed(page).fault());
+        Check.due("fault() of " + page, want, Given.typed(page).fault());
     }
 
     private static void fault() {
@@ -172,13 +122,13 @@ public final class PromiseTest {
         dueFault(";" + EIGHT + ",", 16);
         dueFault(LONGEST + ";" + LONGEST, 63);
         dueFault(LONGEST + ";" + LONGEST + "a", 63);
-        LineScript script = typed("a;b");
+        LineScript script = Given.typed("a;b");
         script.fault();
         Check.due("count(9) behind fault()", 3, script.count(9));
     }
 
     private static void dueText(String page, int want) {
-        Check.due("text() of " + page, want, typed(page).text());
+        Check.due("text() of " + page, want, Given.typed(page).text());
     }
 
     private static void text() {
@@ -190,23 +140,23 @@ public final class PromiseTest {
         for (String page : new String[] {"", "a", "a,b", "a,;", "a;b,", ",;", "abcd;", "f;", "a;b;", EIGHT + ",a;"}) {
             dueText(page, STATE);
         }
-        LineScript script = read(MIXED);
+        LineScript script = Given.read(MIXED);
         Check.due("count(9) behind text()", 0, script.count(9));
-        type(script, "a;,");
+        Given.type(script, "a;,");
         Check.due("text() of none", STATE, script.text());
         Check.due("count(9) behind text() of none", 3, script.count(9));
         Check.due("count(10) behind text() of none", 1, script.count(10));
-        Check.dueText("the OLD side behind text() of none", "abc,de,a", side(script, 0));
+        Check.dueText("the OLD side behind text() of none", "abc,de,a", Given.side(script, 0));
         script.blank();
-        type(script, "e;dd");
+        Given.type(script, "e;dd");
         Check.due("text() of another", 2, script.text());
-        Check.dueText("the OLD side of another", "e", side(script, 0));
-        Check.dueText("the NEW side of another", "dd", side(script, 1));
+        Check.dueText("the OLD side of another", "e", Given.side(script, 0));
+        Check.dueText("the NEW side of another", "dd", Given.side(script, 1));
         Check.due("count(10)", 2, script.count(10));
     }
 
     private static void line() {
-        LineScript script = read(MIXED);
+        LineScript script = Given.read(MIXED);
         int[][] old = {{3, 'a', 'b', 'c', 0, 0}, {2, 'd', 'e', NONE, 2, 1}, {1, 'a', NONE, NONE, NONE, 0}};
         int[][] neu = {{3, 'a', 'b', 'd', 0, 0}, {1, 'a', NONE, NONE, NONE, 0}, {2, 'd', 'e', NONE, 1, 1}};
         for (int line = 0; line < 3; line++) {
@@ -226,7 +176,7 @@ public final class PromiseTest {
     }
 
     private static void step() {
-        LineScript script = read(MIXED);
+        LineScript script = Given.read(MIXED);
         int[][] want = {{3, 0, 0, TWO_THIRDS, 0}, {2, NONE, 1, 0, 0}, {0, 1, 2, ONE, NONE}, {1, 2, NONE, 0, 1}};
         for (int step = 0; step < 4; step++) {
             for (int what = 0; what <= 4; what++) {
@@ -265,8 +215,8 @@ public final class PromiseTest {
 
     private static void dueSlides(String text, int slides, int gaps, String steps) {
         dueSteps(text, steps);
-        Check.due("cost(2) of " + text, slides, read(text).cost(2));
-        Check.due("cost(4) of " + text, gaps, read(text).cost(4));
+        Check.due("cost(2) of " + text, slides, Given.read(text).cost(2));
+        Check.due("cost(4) of " + text, gaps, Given.read(text).cost(4));
     }
 
     private static void stepsOfSlides() {
@@ -295,8 +245,8 @@ public final class PromiseTest {
         dueSteps("ab,ac,bc;b", "D1 D2 C0-0");
         // a GAP has its own pairs
         dueSteps("ab,e,c;e,abd", "D0 K1-0 D2 A1");
-        LineScript script = read("ab,e,abc;ac,e,bc");
-        Check.dueText("steps of two gaps", "C0-0 K1-1 M2-2", steps(script));
+        LineScript script = Given.read("ab,e,abc;ac,e,bc");
+        Check.dueText("steps of two gaps", "C0-0 K1-1 M2-2", Given.steps(script));
         Check.due("gap of the first", 0, script.step(0, 4));
         Check.due("gap of the KEPT one", NONE, script.step(1, 4));
         Check.due("gap of the last", 1, script.step(2, 4));
@@ -305,8 +255,8 @@ public final class PromiseTest {
     }
 
     private static void letters() {
-        LineScript script = read("abc,e,a,cc;bcd,e,b,c");
-        Check.dueText("steps for letters()", "C0-0 K1-1 D2 A2 C3-3", steps(script));
+        LineScript script = Given.read("abc,e,a,cc;bcd,e,b,c");
+        Check.dueText("steps for letters()", "C0-0 K1-1 D2 A2 C3-3", Given.steps(script));
         int[] want = {2, 1, 1};
         for (int what = 0; what <= 2; what++) {
             Check.due("letters(0, " + what + ")", want[what], script.letters(0, what));
@@ -315,11 +265,11 @@ public final class PromiseTest {
         for (int what = 0; what <= 2; what++) {
             Check.due("letters(4, " + what + ")", last[what], script.letters(4, what));
         }
-        LineScript mended = read("a,b;abc,cb");
+        LineScript mended = Given.read("a,b;abc,cb");
         Check.due("letters(0, 0) of a, abc", 1, mended.letters(0, 0));
         Check.due("letters(0, 1) of a, abc", 0, mended.letters(0, 1));
         Check.due("letters(0, 2) of a, abc", 2, mended.letters(0, 2));
-        Check.due("letters(0, 2) of a MENDED one", 1, read("ab;abc").letters(0, 2));
+        Check.due("letters(0, 2) of a MENDED one", 1, Given.read("ab;abc").letters(0, 2));
         for (int wrong : new int[] {-1, 5, LEAST, MOST}) {
             Check.due("letters(" + wrong + ", 9)", UNKNOWN, script.letters(wrong, 9));
         }
@@ -332,7 +282,8 @@ public final class PromiseTest {
     }
 
     private static void dueLike(String old, String neu, float want) {
-        Check.due("like(0, 0) of " + old + ";" + neu, Float.floatToIntBits(want), read(old + ";" + neu).like(0, 0));
+        String text = old + ";" + neu;
+        Check.due("like(0, 0) of " + text, Float.floatToIntBits(want), Given.read(text).like(0, 0));
     }
 
     private static void like() {
@@ -347,13 +298,13 @@ public final class PromiseTest {
         dueLike("abc", "cde", 2f / 6f);
         dueLike("abc", "acb", 4f / 6f);
         dueLike("aab", "baa", 4f / 6f);
-        LineScript wide = read("a;b,c,a");
+        LineScript wide = Given.read("a;b,c,a");
         Check.due("like(0, 2) of one OLD line", ONE, wide.like(0, 2));
         Check.due("like(1, 0) of one OLD line", UNKNOWN, wide.like(1, 0));
         wide.turn();
         Check.due("like(2, 0) of one NEW line", ONE, wide.like(2, 0));
         Check.due("like(0, 1) of one NEW line", UNKNOWN, wide.like(0, 1));
-        LineScript script = read(MIXED);
+        LineScript script = Given.read(MIXED);
         Check.due("like(2, 1)", ONE, script.like(2, 1));
         Check.due("like(0, 1)", Float.floatToIntBits(0.5f), script.like(0, 1));
         Check.due("like(2, 0)", Float.floatToIntBits(0.5f), script.like(2, 0));
@@ -366,15 +317,15 @@ public final class PromiseTest {
     private static void rack() {
         // steps: M0-0 KEPT DROPPED ADDED KEPT CHANGED
         String text = "ab,e,c,d,ab;abc,e,b,d,ac";
-        Check.dueText("steps for rack()", "M0-0 K1-1 D2 A2 K3-3 C4-4", steps(read(text)));
+        Check.dueText("steps for rack()", "M0-0 K1-1 D2 A2 K3-3 C4-4", Given.steps(Given.read(text)));
         int[] taker = {0b11101, 0b00001, 0b00011, 0b00101, 0b00001, 0b01101};
         for (int step = 0; step < taker.length; step++) {
             for (int kind = 0; kind <= 4; kind++) {
                 int want = (taker[step] >> kind & 1) == 1 ? 1 : NONE;
-                Check.due("rack(" + step + ", " + kind + ")", want, read(text).rack(step, kind));
+                Check.due("rack(" + step + ", " + kind + ")", want, Given.read(text).rack(step, kind));
             }
         }
-        LineScript script = read(text);
+        LineScript script = Given.read(text);
         Check.due("rack(3, 2)", 1, script.rack(3, 2));
         Check.due("rack(2, 2), none such", NONE, script.rack(2, 2));
         Check.due("rack(5, 2)", 2, script.rack(5, 2));
@@ -392,7 +343,7 @@ public final class PromiseTest {
     }
 
     private static void racked() {
-        LineScript script = read(MIXED);
+        LineScript script = Given.read(MIXED);
         script.rack(1, 2);
         script.rack(0, 2);
         script.rack(3, 1);
@@ -410,7 +361,7 @@ public final class PromiseTest {
     }
 
     private static LineScript withRack() {
-        LineScript script = read(MIXED);
+        LineScript script = Given.read(MIXED);
         script.image();
         script.rack(0, 0);
         script.rack(3, 1);
@@ -439,7 +390,7 @@ public final class PromiseTest {
         script.restore();
         dueEmpty("restore()", script);
         script = withRack();
-        type(script, MIXED);
+        Given.type(script, MIXED);
         script.text();
         dueEmpty("text()", script);
         script = withRack();
@@ -453,26 +404,26 @@ public final class PromiseTest {
     }
 
     private static void put() {
-        LineScript script = read("a,b;b");
-        Check.due("put(1, 1, abc)", 3, script.put(1, 1, packed("abc")));
+        LineScript script = Given.read("a,b;b");
+        Check.due("put(1, 1, abc)", 3, script.put(1, 1, Given.packed("abc")));
         Check.due("put(1, 0, a)", 3, script.put(1, 0, 'a'));
-        Check.due("put(0, 1, ed)", 4, script.put(0, 1, packed("ed")));
-        Check.dueText("the OLD side", "a,ed,b", side(script, 0));
-        Check.dueText("the NEW side", "a,b,abc", side(script, 1));
-        Check.dueText("the script", "K0-0 D1 K2-1 A2", steps(script));
+        Check.due("put(0, 1, ed)", 4, script.put(0, 1, Given.packed("ed")));
+        Check.dueText("the OLD side", "a,ed,b", Given.side(script, 0));
+        Check.dueText("the NEW side", "a,b,abc", Given.side(script, 1));
+        Check.dueText("the script", "K0-0 D1 K2-1 A2", Given.steps(script));
         for (int wrong : new int[] {-1, 2, LEAST, MOST}) {
             Check.due("put(" + wrong + ", 0, 0)", UNKNOWN, script.put(wrong, 0, 0));
         }
         for (int wrong : new int[] {-1, 4, LEAST, MOST}) {
             Check.due("put(0, " + wrong + ", 0)", UNKNOWN, script.put(0, wrong, 0));
         }
-        int fourLetters = packed("abca");
+        int fourLetters = Given.packed("abca");
         int[] none = {0, -1, 'a' - 1, 'e' + 1, 97 * 128, 128 + 97, 97 * 128 + 102, 102 * 128 + 97, 97 * 128 * 128 + 97,
-            fourLetters, 1 << 21 | packed("abc"), 1 << 31 | packed("abc"), 1 << 31 | 'a', LEAST, MOST};
+            fourLetters, 1 << 21 | Given.packed("abc"), 1 << 31 | Given.packed("abc"), 1 << 31 | 'a', LEAST, MOST};
         for (int letters : none) {
             Check.due("put(0, 0, " + letters + ")", OUTSIDE, script.put(0, 0, letters));
         }
-        LineScript full = read(EIGHT + ";");
+        LineScript full = Given.read(EIGHT + ";");
         Check.due("put() into eight", FULL, full.put(0, 8, 'e'));
         Check.due("put() of none into eight", OUTSIDE, full.put(0, 8, 'f'));
         Check.due("put() behind eight", UNKNOWN, full.put(0, 9, 'e'));
@@ -484,12 +435,12 @@ public final class PromiseTest {
     }
 
     private static void take() {
-        LineScript script = read("a,b,c;a,d");
+        LineScript script = Given.read("a,b,c;a,d");
         Check.due("take(0, 1)", 3, script.take(0, 1));
-        Check.dueText("the OLD side", "a,c", side(script, 0));
+        Check.dueText("the OLD side", "a,c", Given.side(script, 0));
         Check.due("take(1, 1)", 2, script.take(1, 1));
-        Check.dueText("the NEW side", "a", side(script, 1));
-        Check.dueText("the script", "K0-0 D1", steps(script));
+        Check.dueText("the NEW side", "a", Given.side(script, 1));
+        Check.dueText("the script", "K0-0 D1", Given.steps(script));
         for (int wrong : new int[] {-1, 2, LEAST, MOST}) {
             Check.due("take(" + wrong + ", 0)", UNKNOWN, script.take(wrong, 0));
             Check.due("take(0, " + wrong + ")", UNKNOWN, script.take(0, wrong));
@@ -499,21 +450,21 @@ public final class PromiseTest {
         Check.due("take() of the last one", 0, script.take(1, 0));
         Check.due("take() of none", UNKNOWN, script.take(1, 0));
         Check.due("turn() of no lines", 0, script.turn());
-        LineScript shrunk = read("a,b,c;a,b,c");
+        LineScript shrunk = Given.read("a,b,c;a,b,c");
         shrunk.take(1, 2);
         shrunk.take(1, 1);
         Check.due("cost(0) of what is left", 2, shrunk.cost(0));
         Check.due("cost(1) of what is left", 2, shrunk.cost(1));
-        Check.dueText("the script of what is left", "K0-0 D1 D2", steps(shrunk));
+        Check.dueText("the script of what is left", "K0-0 D1 D2", Given.steps(shrunk));
     }
 
     private static void swap() {
-        LineScript script = read("a,b,c;a,c,b");
+        LineScript script = Given.read("a,b,c;a,c,b");
         Check.due("swap(1, 1, 2)", 3, script.swap(1, 1, 2));
-        Check.dueText("the NEW side", "a,b,c", side(script, 1));
+        Check.dueText("the NEW side", "a,b,c", Given.side(script, 1));
         Check.due("swap(0, 2, 0)", 5, script.swap(0, 2, 0));
-        Check.dueText("the OLD side", "c,b,a", side(script, 0));
-        Check.dueText("the script", "A0 A1 K0-2 D1 D2", steps(script));
+        Check.dueText("the OLD side", "c,b,a", Given.side(script, 0));
+        Check.dueText("the script", "A0 A1 K0-2 D1 D2", Given.steps(script));
         Check.due("swap(0, 1, 1)", UNKNOWN, script.swap(0, 1, 1));
         for (int wrong : new int[] {-1, 3, LEAST, MOST}) {
             Check.due("swap(" + wrong + ", 0, 1)", UNKNOWN, script.swap(wrong, 0, 1));
@@ -524,19 +475,19 @@ public final class PromiseTest {
     }
 
     private static void turn() {
-        LineScript script = read("a,b;b,a,cc");
-        Check.dueText("the script", "A0 K0-1 D1 A2", steps(script));
+        LineScript script = Given.read("a,b;b,a,cc");
+        Check.dueText("the script", "A0 K0-1 D1 A2", Given.steps(script));
         Check.due("turn()", 4, script.turn());
-        Check.dueText("the OLD side", "b,a,cc", side(script, 0));
-        Check.dueText("the NEW side", "a,b", side(script, 1));
-        Check.dueText("the script turned", "A0 K0-1 D1 D2", steps(script));
+        Check.dueText("the OLD side", "b,a,cc", Given.side(script, 0));
+        Check.dueText("the NEW side", "a,b", Given.side(script, 1));
+        Check.dueText("the script turned", "A0 K0-1 D1 D2", Given.steps(script));
         script.turn();
-        Check.dueText("the script turned twice", "A0 K0-1 D1 A2", steps(script));
-        Check.due("turn() of none", 0, read(";").turn());
+        Check.dueText("the script turned twice", "A0 K0-1 D1 A2", Given.steps(script));
+        Check.due("turn() of none", 0, Given.read(";").turn());
     }
 
     private static void dueCosts(String text, int... want) {
-        LineScript script = read(text);
+        LineScript script = Given.read(text);
         for (int what = 0; what <= 4; what++) {
             Check.due("cost(" + what + ") of " + text, want[what], script.cost(what));
         }
@@ -553,16 +504,16 @@ public final class PromiseTest {
         dueCosts("a,b,c;d,a,c,b", 3, 3, 0, 2, 3);
         dueCosts("a,b;a,b,a,b", 2, 2, 2, 0, 1);
         dueCosts("b,a,b;a,a,b,a", 3, 3, 1, 0, 2);
-        LineScript script = read(MIXED);
+        LineScript script = Given.read(MIXED);
         for (int wrong : new int[] {-1, 5, LEAST, MOST}) {
             Check.due("cost(" + wrong + ")", OUTSIDE, script.cost(wrong));
         }
     }
 
     private static void dueBest(String text, String line, int want) {
-        LineScript script = read(text);
+        LineScript script = Given.read(text);
         long before = script.digest();
-        Check.due("best(" + line + ") of " + text, want, script.best(packed(line)));
+        Check.due("best(" + line + ") of " + text, want, script.best(Given.packed(line)));
         Check.due("digest() behind best()", before, script.digest());
     }
 
@@ -579,16 +530,16 @@ public final class PromiseTest {
         dueBest(MIXED, "a", 3);
         // by COST, not by SHORTEST: a second "c" that makes it no anchor
         dueBest("a,a,c;c,a,a", "c", 3);
-        LineScript script = read("a;" + EIGHT);
+        LineScript script = Given.read("a;" + EIGHT);
         Check.due("best() of eight", FULL, script.best('a'));
-        for (int wrong : new int[] {0, -1, 'f', 97 * 128, packed("abca"), LEAST, MOST}) {
+        for (int wrong : new int[] {0, -1, 'f', 97 * 128, Given.packed("abca"), LEAST, MOST}) {
             Check.due("best(" + wrong + ")", OUTSIDE, script.best(wrong));
         }
-        Check.due("best() of eight OLD ones", 0, read(EIGHT + ";").best('a'));
+        Check.due("best() of eight OLD ones", 0, Given.read(EIGHT + ";").best('a'));
     }
 
     private static void dueAll(String text, double want) {
-        Check.due("all() of " + text, Double.doubleToLongBits(want), read(text).all());
+        Check.due("all() of " + text, Double.doubleToLongBits(want), Given.read(text).all());
     }
 
     private static void all() {
@@ -630,43 +581,43 @@ public final class PromiseTest {
         for (int wrong : new int[] {-1, 3, LEAST, MOST}) {
             Check.due("drawn(1, 1, " + wrong + ")", OUTSIDE, script.drawn(1, 1, wrong));
         }
-        LineScript other = read(MIXED);
+        LineScript other = Given.read(MIXED);
         long before = other.digest();
         other.drawn(30, 5, 0);
         Check.due("digest() behind drawn()", before, other.digest());
     }
 
     private static void image() {
-        LineScript script = read(MIXED);
+        LineScript script = Given.read(MIXED);
         Check.due("image()", 6, script.image());
         script.take(0, 0);
         Check.due("image(), the latest", 5, script.image());
         script.take(0, 0);
         script.restore();
-        Check.dueText("the OLD side of the latest", "de,a", side(script, 0));
-        Check.due("image() of no lines", 0, read(";").image());
+        Check.dueText("the OLD side of the latest", "de,a", Given.side(script, 0));
+        Check.due("image() of no lines", 0, Given.read(";").image());
     }
 
     private static void restore() {
-        LineScript script = read(MIXED);
+        LineScript script = Given.read(MIXED);
         Check.due("restore() of none", STATE, script.restore());
         script.image();
         long before = script.digest();
-        script.put(1, 2, packed("ee"));
+        script.put(1, 2, Given.packed("ee"));
         script.swap(0, 0, 2);
         script.turn();
         Check.due("restore()", 6, script.restore());
-        Check.dueText("the OLD side", "abc,de,a", side(script, 0));
-        Check.dueText("the NEW side", "abd,a,de", side(script, 1));
+        Check.dueText("the OLD side", "abc,de,a", Given.side(script, 0));
+        Check.dueText("the NEW side", "abd,a,de", Given.side(script, 1));
         Check.due("digest() behind restore()", before, script.digest());
         script.take(1, 1);
         Check.due("restore() again", 6, script.restore());
-        type(script, ",");
+        Given.type(script, ",");
         script.text();
         Check.due("restore() behind text() of none", 6, script.restore());
         Check.due("count(9) behind restore()", 1, script.count(9));
         script.blank();
-        type(script, "a;a");
+        Given.type(script, "a;a");
         script.text();
         Check.due("restore() behind another text", STATE, script.restore());
         script.image();
@@ -675,11 +626,11 @@ public final class PromiseTest {
 
     private static void count() {
         // steps: M0-0 KEPT DROPPED ADDED KEPT CHANGED
-        LineScript script = read("ab,e,c,c,d,ab;abc,e,b,d,ac");
+        LineScript script = Given.read("ab,e,c,c,d,ab;abc,e,b,d,ac");
         script.rack(0, 0);
         script.rack(1, 0);
         script.rack(0, 4);
-        type(script, "xyz!");
+        Given.type(script, "xyz!");
         int[] want = {6, 5, 7, 2, 2, 1, 1, 1, 3, 4, 1};
         for (int what = 0; what <= 10; what++) {
             Check.due("count(" + what + ")", want[what], script.count(what));
@@ -688,7 +639,7 @@ public final class PromiseTest {
             Check.due("count(" + wrong + ")", OUTSIDE, script.count(wrong));
         }
         script.blank();
-        type(script, "a;");
+        Given.type(script, "a;");
         script.text();
         Check.due("count(10)", 2, script.count(10));
         Check.due("count(1)", 0, script.count(1));
@@ -709,7 +660,7 @@ public final class PromiseTest {
         script.letter(126);
         script.letter(7);
         Check.due("digest() with a page", hash(empty, 126, 7, 0, 0, 0, 0, 0, 0, 0, 0, 0, 2, 0), script.digest());
-        LineScript full = read("ab,e;ad,e");
+        LineScript full = Given.read("ab,e;ad,e");
         full.rack(1, 0);
         full.rack(0, 0);
         full.rack(0, 3);
@@ -727,7 +678,7 @@ public final class PromiseTest {
 
     private static void refusalsChangeNothing() {
         LineScript script = withRack();
-        type(script, "a,");
+        Given.type(script, "a,");
         long before = script.digest();
         script.letter(0);
         script.text();
@@ -750,7 +701,7 @@ public final class PromiseTest {
         script.count(11);
         Check.due("digest() behind refusals", before, script.digest());
         Check.due("restore() behind refusals", 6, script.restore());
-        LineScript full = read(EIGHT + ";" + EIGHT);
+        LineScript full = Given.read(EIGHT + ";" + EIGHT);
         before = full.digest();
         full.put(0, 0, 97);
         full.best(97);
